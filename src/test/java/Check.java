@@ -25,8 +25,13 @@ final class Check {
 
     /** Appends a program given as opcode, arg, opcode, arg, .. */
     static void emitAll(SeriesParallelRace x, int... program) {
+        int length = 0;
+        while (x.code(length, 0) != Ops.REFUSED) {
+            length++;
+        }
         for (int i = 0; i < program.length; i += 2) {
-            due("emit(" + program[i] + ", " + program[i + 1] + ")", i / 2, x.emit(program[i], program[i + 1]));
+            due("emit(" + program[i] + ", " + program[i + 1] + ")", length, x.emit(program[i], program[i + 1]));
+            length++;
         }
     }
 

@@ -124,8 +124,8 @@ public final class SeriesParallelRace {
         if (state != EDIT) {
             return REFUSED;
         }
-        forgetRun();
-        pushLevel(0, 0, 0, 0);
+        // In EDIT there is no run that would have to be forgotten first.
+        makeInstance(0, 0, 0, 0);
         state = RUNNING;
         return OK;
     }
@@ -367,10 +367,10 @@ public final class SeriesParallelRace {
                 endInstance(level);
                 break;
             case SPAWN:
-                makeInstance(level, arg, 1);
+                makeInstance(arg, levelA[level], levelX[level], 1);
                 break;
             case CALL:
-                makeInstance(level, arg, 0);
+                makeInstance(arg, levelA[level], levelX[level], 0);
                 break;
             case LOAD:
                 levelA[level] = cells[touched];
@@ -403,23 +403,19 @@ public final class SeriesParallelRace {
         }
     }
 
-    private void makeInstance(int parent, int target, int spawned) {
-        int child = parent + 1;
-        pushLevel(target, levelA[parent], levelX[parent], spawned);
-        // The set of a calling parent is stale until its child ends, but only
-        // the current instance's set is ever asked.
-        addSet(before, parent, before, child);
-    }
-
-    private void pushLevel(int address, int a, int x, int spawned) {
+    private void makeInstance(int address, int a, int x, int spawned) {
         int level = levelCount;
         levelAddress[level] = address;
         levelInstance[level] = instancesMade;
         levelA[level] = a;
         levelX[level] = x;
         levelSpawned[level] = spawned;
+        // An instance that stood on this level before may have left its sets.
         clearSet(before, level);
         clearSet(awaited, level);
+        if (level > 0) {
+            addSet(before, level - 1, before, level);
+        }
         levelCount = level + 1;
         instancesMade++;
     }
@@ -435,7 +431,7 @@ public final class SeriesParallelRace {
             addSet(before, level, awaited, parent);
         } else {
             levelA[parent] = levelA[level];
-            // Adding is enough: what leads to the call leads to its end.
+            // Adding is enough: whatever leads to the call leads to this end.
             addSet(before, level, before, parent);
         }
     }

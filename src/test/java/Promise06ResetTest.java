@@ -2,7 +2,9 @@
 public final class Promise06ResetTest extends Ops {
     public static void main(String[] args) {
         SeriesParallelRace x = Check.machine(SPAWN, 3, STORE, 0, RET, 0, STORE, 0);
-        x.poke(1, 5);
+        for (int c = 0; c < 4; c++) {
+            x.poke(c, 5 + c);
+        }
         x.reset();
         isForgotten(x, 4);
         x.poke(1, 5);

@@ -92,7 +92,7 @@ public final class Promise11RacingTest extends Ops {
         masksAre(new int[] {CALL, 3, SPAWN, 3, RET, 0, STORE, 0}, 0, 0, 0, 0, 0, 0, 0);
     }
 
-    /** A run that is broken off with a child awaited, then one that begins with a SYNC. */
+    /** A run that is broken off with a child awaited, then one that begins with a SYNC, then the first once more. */
     private static void forgottenRunsOrderNothing() {
         SeriesParallelRace x = Check.machine(LOAD, 3, JZ, 5, SPAWN, 8, SYNC, 0, RET, 0,
             SYNC, 0, SPAWN, 8, STORE, 0, STORE, 0, STORE, 0);
@@ -104,6 +104,11 @@ public final class Promise11RacingTest extends Ops {
         x.start();
         Check.due("run(32)", DONE, x.run(32));
         Check.masks(x, 0, 0, 0, 0, 0, 0, 0, 1, 1, 1, 0);
+        x.reset();
+        x.poke(3, 1);
+        x.start();
+        Check.due("run(32)", DONE, x.run(32));
+        Check.masks(x, 0, 0, 0, 0, 0, 0, 0, 0);
     }
 
     private static void masksStayWhenLaterStepsCome() {

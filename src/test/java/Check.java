@@ -1,15 +1,40 @@
-/** What every test shares: telling wrong answers, and making machines. */
+import java.util.function.IntUnaryOperator;
+
+/** What every test shares: telling wrong answers under the sentence that they break, and making machines. */
 final class Check {
+    /** Ints around the edges of every range that the document names. */
+    static final int[] AROUND = {Ops.LEAST, Ops.LEAST + 1, -129, -2, -1, 0, 1, 2, 3, 4, 5, 6, 7, 8, 9, 10, 11, 12, 13, 14,
+        15, 16, 17, 31, 32, 33, 47, 48, 49, 127, 128, 129, Ops.MOST - 1, Ops.MOST};
+
     private static int wrong = 0;
+    private static String sentence = "";
+    private static boolean told = true;
 
     private Check() {
     }
 
-    static void due(String call, long want, long got) {
-        if (got != want) {
-            wrong++;
-            System.out.println(call + " answered " + got + ", due is " + want);
+    /** Runs the test of one sentence of the document; if an answer in it is wrong, the sentence is told first. */
+    static void holds(String words, Runnable test) {
+        sentence = words;
+        told = false;
+        try {
+            test.run();
+        } catch (RuntimeException thrown) {
+            due("a call that threw " + thrown, 0, 1);
         }
+        told = true;
+    }
+
+    static void due(String call, long want, long got) {
+        if (got == want) {
+            return;
+        }
+        if (!told) {
+            System.out.println("BROKEN: " + sentence);
+            told = true;
+        }
+        wrong++;
+        System.out.println("  " + call + " answered " + got + ", due is " + want);
     }
 
     static void end() {
@@ -23,10 +48,21 @@ final class Check {
         return wrong != 0;
     }
 
+    /** Makes a call with each int of AROUND that is not in least..most; each answer must be the one given. */
+    static void outside(String call, int least, int most, int want, IntUnaryOperator made) {
+        for (int value : AROUND) {
+            if (value < least || value > most) {
+                due(call + " with " + value, want, made.applyAsInt(value));
+            }
+        }
+        due(call + " with " + (least - 1), want, made.applyAsInt(least - 1));
+        due(call + " with " + (most + 1), want, made.applyAsInt(most + 1));
+    }
+
     /** Appends a program given as opcode, arg, opcode, arg, .. */
     static void emitAll(SeriesParallelRace x, int... program) {
         int length = 0;
-        while (x.code(length, 0) != Ops.REFUSED) {
+        while (length < 48 && x.code(length, 0) != Ops.REFUSED) {
             length++;
         }
         for (int i = 0; i < program.length; i += 2) {
@@ -47,6 +83,21 @@ final class Check {
         SeriesParallelRace x = machine(program);
         due("start()", Ops.OK, x.start());
         return x;
+    }
+
+    /** Runs until the status is no longer RUNNING, or until nothing more can come. */
+    static int runOut(SeriesParallelRace x) {
+        for (int i = 0; i < 8 && x.status() == Ops.RUNNING; i++) {
+            x.run(32);
+        }
+        return x.status();
+    }
+
+    /** Compares cell(0), cell(1), .. with the values. */
+    static void cells(SeriesParallelRace x, int... values) {
+        for (int c = 0; c < values.length; c++) {
+            due("cell(" + c + ")", values[c], x.cell(c));
+        }
     }
 
     /** Compares racing(0), racing(1), .. with the masks, and that there are no more steps. */

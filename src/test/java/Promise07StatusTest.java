@@ -1,10 +1,19 @@
 /** Promise 7: status answers each of the six statuses. */
 public final class Promise07StatusTest extends Ops {
     public static void main(String[] args) {
+        Check.holds("status() answers the status, one of the six status values.",
+            Promise07StatusTest::answersEachStatus);
+        Check.holds("It changes nothing.", () -> Machines.changesNothing(SeriesParallelRace::status));
+        Check.end();
+    }
+
+    private static void answersEachStatus() {
         SeriesParallelRace x = new SeriesParallelRace(8, 4, 2, 3);
         Check.due("new", EDIT, x.status());
         Check.emitAll(x, JZ, 2, RET, 0, SPAWN, 7, SPAWN, 7, SPAWN, 7);
         Check.due("after emit", EDIT, x.status());
+        x.poke(1, 1);
+        Check.due("after poke", EDIT, x.status());
         x.start();
         Check.due("after start", RUNNING, x.status());
         x.run(0);
@@ -36,6 +45,5 @@ public final class Promise07StatusTest extends Ops {
         SeriesParallelRace brief = Check.started();
         brief.run(1);
         Check.due("after the root's end", DONE, brief.status());
-        Check.end();
     }
 }

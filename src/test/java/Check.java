@@ -3,8 +3,8 @@ import java.util.function.IntUnaryOperator;
 /** What every test shares: telling wrong answers under the sentence that they break, and making machines. */
 final class Check {
     /** Ints around the edges of every range that the document names. */
-    static final int[] AROUND = {Ops.LEAST, Ops.LEAST + 1, -129, -2, -1, 0, 1, 2, 3, 4, 5, 6, 7, 8, 9, 10, 11, 12, 13, 14,
-        15, 16, 17, 31, 32, 33, 47, 48, 49, 127, 128, 129, Ops.MOST - 1, Ops.MOST};
+    static final int[] AROUND = {Ops.LEAST, Ops.LEAST + 1, -129, -2, -1, 0, 1, 2, 3, 4, 5, 6, 7, 8, 9, 10, 11, 12, 13,
+        14, 15, 16, 17, 31, 32, 33, 47, 48, 49, 127, 128, 129, Ops.MOST - 1, Ops.MOST};
 
     private static int wrong = 0;
     private static String sentence = "";

@@ -13,24 +13,43 @@ final class Machines extends Ops {
     /** The step of each of their runs that races, at cell 0. */
     static final int RACING_STEP = 5;
 
+    private static final int ACTIONS = 38;
+
     private Machines() {
     }
 
-    /** Cells 1 and 3 are poked; the child that the root spawns writes cell 0, then the root does; address 3 decides. */
     static SeriesParallelRace in(int status) {
+        SeriesParallelRace x = unasked(status);
+        Check.due("status() of the machine to be tested", status, x.status());
+        return x;
+    }
+
+    /** A new machine with the capacities of the one in the status. */
+    static SeriesParallelRace empty(int status) {
+        return new SeriesParallelRace(16, 4, status == TOO_DEEP ? 3 : 6, status == TOO_MANY ? 4 : 12);
+    }
+
+    /**
+     * A machine that was put no question on its way to the status. Cells 1 and
+     * 3 are poked; the child that the root spawns writes cell 0, then the root
+     * does; the instruction at address 3 decides on how the run goes on.
+     */
+    private static SeriesParallelRace unasked(int status) {
+        SeriesParallelRace x = empty(status);
         int decider = status == OUT_OF_STEPS ? JMP : status == TOO_DEEP || status == TOO_MANY ? CALL : SYNC;
-        SeriesParallelRace x = new SeriesParallelRace(16, 4, status == TOO_DEEP ? 3 : 6, status == TOO_MANY ? 4 : 12);
-        Check.emitAll(x, LOAD, 1, SPAWN, 7, STORE, 0, decider, 3, RET, 0, RET, 0, RET, 0, SET, 5, STORE, 0, RET, -1);
+        int[] program = {LOAD, 1, SPAWN, 7, STORE, 0, decider, 3, RET, 0, RET, 0, RET, 0, SET, 5, STORE, 0, RET, -1};
+        for (int i = 0; i < program.length; i += 2) {
+            x.emit(program[i], program[i + 1]);
+        }
         x.poke(1, 9);
         x.poke(3, -1);
         if (status != EDIT) {
             x.start();
             x.run(6);
         }
-        if (status != EDIT && status != RUNNING) {
-            Check.runOut(x);
+        for (int i = 0; i < 5 && status != EDIT && status != RUNNING; i++) {
+            x.run(32);
         }
-        Check.due("status() of the machine to be tested", status, x.status());
         return x;
     }
 
@@ -48,41 +67,41 @@ final class Machines extends Ops {
 
     /**
      * Of two like machines in each status, makes the calls on one alone, now
-     * and again whenever both have gone on. Both must answer alike throughout:
-     * a change that no question shows at once would show in what follows.
+     * and again whenever both have gone on. Both must answer alike: a change
+     * that no question shows at once would show in what follows. The other
+     * machine is asked nothing until the end, or a question that changes
+     * something would change both; so each length of the way has its own two.
      */
     static void changesNothing(Consumer<SeriesParallelRace> calls) {
         for (int status : STATUSES) {
-            SeriesParallelRace left = in(status);
-            SeriesParallelRace changed = in(status);
-            alike("in status " + status, calls, left, changed);
-            goOn("from status " + status, calls, left, changed);
-            left.reset();
-            changed.reset();
-            alike("after reset", calls, left, changed);
-            Check.due("emit after reset", left.emit(SUM, 1), changed.emit(SUM, 1));
-            Check.due("poke after reset", left.poke(2, 6), changed.poke(2, 6));
-            goOn("after reset", calls, left, changed);
+            for (int length = 0; length <= ACTIONS; length++) {
+                SeriesParallelRace left = unasked(status);
+                SeriesParallelRace changed = unasked(status);
+                calls.accept(changed);
+                for (int i = 0; i < length; i++) {
+                    Check.due("the answer of action " + i + " from " + status, act(left, i), act(changed, i));
+                    calls.accept(changed);
+                }
+                same("after " + length + " actions from status " + status, answers(left), answers(changed));
+            }
         }
     }
 
-    private static void goOn(String when, Consumer<SeriesParallelRace> calls, SeriesParallelRace left,
-            SeriesParallelRace changed) {
-        Check.due("start() " + when, left.start(), changed.start());
-        for (int i = 0; i < 20; i++) {
-            alike(when, calls, left, changed);
-            Check.due("run(1) " + when, left.run(1), changed.run(1));
+    /** The run is started, goes on by single steps and then to its end; all that twice, with a reset between. */
+    private static int act(SeriesParallelRace x, int number) {
+        int half = number % (ACTIONS / 2);
+        if (half == 0) {
+            return x.start();
         }
-        for (int i = 0; i < 5; i++) {
-            Check.due("run(32) " + when, left.run(32), changed.run(32));
-            alike(when, calls, left, changed);
+        if (half <= 12) {
+            return x.run(1);
         }
-    }
-
-    private static void alike(String when, Consumer<SeriesParallelRace> calls, SeriesParallelRace left,
-            SeriesParallelRace changed) {
-        calls.accept(changed);
-        same(when, answers(left), answers(changed));
+        if (half <= 17) {
+            return x.run(32);
+        }
+        x.reset();
+        x.poke(2, 6);
+        return x.emit(SUM, 1);
     }
 
     static void same(String when, int[] want, int[] got) {

@@ -17,6 +17,7 @@ public final class Promise05InstructionTest extends Ops {
     }
 
     private static void returns() {
+        Check.holds("RET: the instance ends and leaves the stack.", Promise05InstructionTest::endedInstancesLeave);
         Check.holds("If it was the root, the status becomes DONE and the stack is empty.",
             Promise05InstructionTest::rootsEndTheRun);
         Check.holds("If it was made by CALL, the A of its parent becomes the A of the ended instance "
@@ -129,6 +130,21 @@ public final class Promise05InstructionTest extends Ops {
                 Check.due("step(" + p + ", 1)", op, x.step(p, 1));
                 Check.due("frame(0, 0) after opcode " + op, p + 1, x.frame(0, 0));
             }
+        }
+    }
+
+    private static void endedInstancesLeave() {
+        for (int op : new int[] {SPAWN, CALL}) {
+            SeriesParallelRace x = Check.started(op, 3, RET, 0, RET, 0, op, 5, RET, 0, RET, 0);
+            x.run(2);
+            for (int depth = 3; depth >= 1; depth--) {
+                Check.due("depth()", depth, x.depth());
+                Check.due("frame(depth, 1)", REFUSED, x.frame(depth, 1));
+                x.run(1);
+                Check.due("step(.., 1)", RET, x.step(x.steps() - 1, 1));
+                Check.due("step(.., 2)", depth - 1, x.step(x.steps() - 1, 2));
+            }
+            Check.due("depth()", 0, x.depth());
         }
     }
 

@@ -32,8 +32,7 @@ public final class Promise06ResetTest extends Ops {
     }
 
     private static SeriesParallelRace newWithTheProgramOf(SeriesParallelRace x, int status) {
-        SeriesParallelRace fresh =
-            new SeriesParallelRace(16, 4, status == TOO_DEEP ? 3 : 6, status == TOO_MANY ? 4 : 12);
+        SeriesParallelRace fresh = Machines.empty(status);
         for (int at = 0; at < Machines.LENGTH; at++) {
             fresh.emit(x.code(at, 0), x.code(at, 1));
         }

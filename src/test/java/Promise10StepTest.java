@@ -1,7 +1,8 @@
 /** Promise 10: step shows address, opcode, instance and cell of a step. */
 public final class Promise10StepTest extends Ops {
     public static void main(String[] args) {
-        Check.holds("step(k, what) answers REFUSED if k is not in 0..steps()-1", Promise10StepTest::refusesStepsOutside);
+        Check.holds("step(k, what) answers REFUSED if k is not in 0..steps()-1",
+            Promise10StepTest::refusesStepsOutside);
         Check.holds("or what is not in 0..3.", Promise10StepTest::refusesOtherQuestions);
         Check.holds("the address of its instruction", () -> showsEachStep(0));
         Check.holds("(it can be >= length, the step then being a RET);", Promise10StepTest::showsAddressesBehind);

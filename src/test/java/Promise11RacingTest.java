@@ -20,7 +20,8 @@ public final class Promise11RacingTest extends Ops {
     private static void edges() {
         Check.holds("(an edge whose far end is a step not yet executed, or never executed, is absent)",
             Promise11RacingTest::edgesNeedTheirFarEnd);
-        Check.holds("from a SPAWN step to the first step of the new instance,", Promise11RacingTest::spawnLeadsToTheChild);
+        Check.holds("from a SPAWN step to the first step of the new instance,",
+            Promise11RacingTest::spawnLeadsToTheChild);
         Check.holds("and also to the next step (after the SPAWN) of the instance that executed it;",
             Promise11RacingTest::spawnLeadsToTheParent);
         Check.holds("from a CALL step to the first step of the new instance (only);",
@@ -332,20 +333,40 @@ public final class Promise11RacingTest extends Ops {
 
     /** The same races, moved from the run's beginning to its very end by idle steps. */
     private static void holdsAtEveryStepNumber() {
-        int[] tail = {0, 0, 0, 0, 1, 3, 0, 0, 0, 0};
-        for (int idle = 0; idle <= 116; idle++) {
-            SeriesParallelRace x = new SeriesParallelRace(48, 4, 4, 4);
-            Check.emitAll(x, SET, -(idle / 3), JZ, 4, ADD, 1, JMP, 1);
+        // By the root and its child, at the first cell,
+        movedThroughTheRun(new int[] {SPAWN, 7, LOAD, 0, STORE, 0, SYNC, 0, LOAD, 0, STORE, 0, RET, 0,
+            STORE, 0, LOAD, 0}, 0, 0, 0, 0, 1, 3, 0, 0, 0, 0);
+        // and by instances on the levels above, at the last cell.
+        movedThroughTheRun(new int[] {CALL, 3, LOAD, -1, RET, 0, STORE, -1, SPAWN, 10, LOAD, -1, STORE, -1, SYNC, 0,
+            STORE, -1, RET, 0, STORE, -1, LOAD, -1}, 0, 0, 0, 0, 0, 0, 1, 3, 0, 0, 0, 0, 0);
+    }
+
+    private static void movedThroughTheRun(int[] program, int... masks) {
+        for (int idle = 0; 4 + idle + masks.length <= 128; idle++) {
+            SeriesParallelRace x = new SeriesParallelRace(48, 16, 4, 4);
+            // A child first, so that not all of the steps before the program are ordered with it.
+            Check.emitAll(x, SPAWN, 47, SET, -(idle / 3), JZ, 5, ADD, 1, JMP, 2);
             for (int i = 0; i < idle % 3; i++) {
                 Check.emitAll(x, MOVE, 0);
             }
-            int child = 4 + idle % 3 + 7;
-            Check.emitAll(x, SPAWN, child, LOAD, 0, STORE, 0, SYNC, 0, LOAD, 0, STORE, 0, RET, 0, STORE, 0, LOAD, 0);
+            int base = 5 + idle % 3;
+            for (int i = 0; i < program.length; i += 2) {
+                boolean forks = program[i] == SPAWN || program[i] == CALL;
+                Check.emitAll(x, program[i], program[i + 1] + (forks ? base : 0));
+            }
+            int[] all = new int[4 + idle + masks.length];
+            System.arraycopy(masks, 0, all, 4 + idle, masks.length);
+            twice(x, all);
+        }
+    }
+
+    /** The second run must find nothing of the first. */
+    private static void twice(SeriesParallelRace x, int[] masks) {
+        for (int run = 0; run < 2; run++) {
             x.start();
-            Check.due("the end with " + idle + " idle steps", DONE, Check.runOut(x));
-            int[] masks = new int[2 + idle + tail.length];
-            System.arraycopy(tail, 0, masks, 2 + idle, tail.length);
+            Check.due("the end after " + masks.length + " steps", DONE, Check.runOut(x));
             Check.masks(x, masks);
+            x.reset();
         }
     }
 }

@@ -134,7 +134,7 @@ public final class Promise12ConcurrentTest extends Ops {
     private static void stepsMayBeOfAnyOpcode() {
         SeriesParallelRace x = Check.started(SPAWN, 3, SET, 0, SYNC, 0, LOAD, 0, STORE, 1, SUM, 2, SET, 0, ADD, 0,
             MOVE, 0, JZ, 10, JMP, 11, CALL, 13, SPAWN, 13, SYNC, 0);
-        // 0: the root's SPAWN; 1 to 8: to the child's JMP; then a CALL and a SPAWN, each of a SYNC and a RET; SYNC, RET.
+        // The root's SPAWN, eight steps to the child's JMP, a CALL and a SPAWN with a SYNC and a RET each, SYNC, RET.
         x.run(17);
         Check.due("frame(0, 0)", 1, x.frame(0, 0));
         Check.due("depth()", 1, x.depth());

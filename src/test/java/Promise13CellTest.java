@@ -46,7 +46,7 @@ public final class Promise13CellTest extends Ops {
         }
     }
 
-    /** Asked between a child's access and its parent's, it is neither a step nor a read that a STORE could race with. */
+    /** Asked before a parent's STORE, it is neither a step nor a read that this could race with. */
     private static void isNoAccess() {
         SeriesParallelRace x = Check.started(SPAWN, 2, STORE, 1, SYNC, 0);
         for (int k = 0; k < 3; k++) {
